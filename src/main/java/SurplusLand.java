@@ -1397,7 +1397,9 @@ public final class SurplusLand {
         void lay(int slot, int width, int n) {
             widths[slot] = width;
             lengths[slot] = n;
-            Arrays.fill(cells, slot * ROW_ROOM, slot * ROW_ROOM + n, 0L);
+            for (int i = 0; i < n && i < ROW_ROOM; i++) {
+                cells[slot * ROW_ROOM + i] = 0;
+            }
         }
 
         long numberAt(int slot, int i) {

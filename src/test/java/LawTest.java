@@ -12,7 +12,9 @@ public final class LawTest {
         sums();
         conditions();
         facts();
+        soldByLaw();
         freedAndStill();
+        nothingOfTheYearBefore();
         check.finish();
     }
 
@@ -112,6 +114,14 @@ public final class LawTest {
         faultIs("keeps 1", 0);
         faultIs("Keep 1", 0);
         faultIs("kee", 0);
+        faultIs("xeep 1", 0);
+        faultIs("keepz 1", 0);
+        faultIs("zkeep 1", 0);
+        faultIs("a", 0);
+        faultIs(";".repeat(300), 0);
+        faultIs("keep " + "(".repeat(295), 13);
+        faultIs("keep 1" + "+1".repeat(147), -1);
+        faultIs("keep 1" + "*1".repeat(146) + "*", 299);
         faultIs("crop", 0);
         faultIs("12", 0);
         faultIs("if", 0);
@@ -149,6 +159,10 @@ public final class LawTest {
         faultIs("least 1 if 1<2", 8);
         faultIs("still 1 if 1<2", 8);
         faultIs("free 1+1", 6);
+        faultIs("least 1+1", 7);
+        faultIs("still 1*1", 7);
+        faultIs("least (1)", 6);
+        faultIs("still year", 6);
         faultIs("free crop", 5);
         faultIs("free (1)", 5);
         faultIs("free", 4);
@@ -193,6 +207,8 @@ public final class LawTest {
         check.due("nine", Check.fault("keep (((((((((1)))))))))"), 13);
         check.due("eight in a row", Check.fault("keep (1)+(1)+(1)+(1)+(1)+(1)+(1)+(1)+(1)+(1)"), -1);
         check.due("nine in a condition", Check.fault("keep 1 if 1<1+((((((((1*(2)))))))))"), 24);
+        check.due("eight in a condition", Check.fault("keep 1 if ((((((((1))))))))<((((((((2))))))))"), -1);
+        check.due("nine in a condition", Check.fault("keep 1 if (((((((((1)))))))))<2"), 18);
         check.due("a deep one's value", part("keep 1+(2*(3+(4*(5-(6-(7-(8-(9-1))))))))", 0), 55);
     }
 
@@ -264,6 +280,53 @@ public final class LawTest {
         check.due("rest of 0", x.growerOf(0, 6), 10 + 70);
         x.go(1);
         check.due("old does not hold", x.count(7), 0);
+    }
+
+    private static void soldByLaw() {
+        check.due("sell", sold("sell 7"), 7);
+        check.due("the first sell", sold("sell 7;sell 8"), 7);
+        check.due("whose conditions hold", sold("sell 7 if year>1;sell 8"), 8);
+        check.due("cut to 0", sold("sell 0-1;sell 5"), 0);
+        check.due("cut to the store", sold("sell 31"), 30);
+        check.due("no sell", sold("keep 5"), 0);
+    }
+
+    /** What is sold of a store of 30 in year 1. */
+    private static long sold(String text) {
+        SurplusLand x = new SurplusLand();
+        x.grower(0, 30);
+        Check.law(x, "keep 100", 0, 0);
+        Check.law(x, text, 1, 1);
+        x.go(1);
+        x.go(1);
+        return x.sum(3);
+    }
+
+    private static void nothingOfTheYearBefore() {
+        SurplusLand x = new SurplusLand();
+        x.terms(0, 0, 0, 0, 10000, 0, 0);
+        x.grower(0, 10);
+        x.grower(7, 10);
+        Check.law(x, "keep 50;free 0;free 7", 0, 0);
+        Check.law(x, "keep 50", 1, 1);
+        Check.law(x, "keep 50;least 11;still 0;sell 3", 2, 2);
+        Check.law(x, "free 1", 3, 3);
+        x.go(1);
+        check.due("villages 0 and 7 are freed", x.sum(1), 0);
+        x.go(1);
+        check.due("not in the next year", x.sum(1), 10);
+        x.go(1);
+        check.due("freed by the least", x.sum(1), 10);
+        check.due("sold", x.sum(3), 3);
+        check.due("stilled", x.sum(5), 7);
+        x.right(0, 1, 12);
+        x.right(1, 1, 16);
+        x.go(1);
+        check.due("no least in the next year: the rests are kept", x.sum(1), 14);
+        check.due("no sell, no part", x.sum(3), 3);
+        check.due("no part", x.count(7), 0);
+        x.go(1);
+        check.due("no still", x.sum(5), 7);
     }
 
     private static void freedAndStill() {

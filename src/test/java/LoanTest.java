@@ -8,6 +8,7 @@ public final class LoanTest {
         owed();
         paidWhenDue();
         partTaken();
+        leastNumberTaken();
         allTaken();
         secondTakesAll();
         bothDue();
@@ -155,6 +156,18 @@ public final class LoanTest {
         check.due("not paid", y.count(9), 1);
         check.due("money stays", y.money(0), 4900);
         check.due("the bank's too", y.money(13), -4900);
+    }
+
+    private static void leastNumberTaken() {
+        int[] rates = {1, 99, 100};
+        for (int rate : rates) {
+            SurplusLand x = withReceipt();
+            x.bank(0, 1, rate);
+            x.pledge(0, 0, 1);
+            x.go(0);
+            x.go(0);
+            check.due("worth " + (100 + rate) + " at 100", x.receipt(1, 1), 2);
+        }
     }
 
     private static void allTaken() {

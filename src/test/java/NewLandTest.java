@@ -4,6 +4,7 @@ public final class NewLandTest {
 
     public static void main(String[] args) {
         newObject();
+        firstTerms();
         terms();
         termsAtWork();
         bank();
@@ -34,6 +35,30 @@ public final class NewLandTest {
         check.due("no text: count(7)", x.count(7), 0);
         check.due("first terms: count(6)", x.count(6), 900);
         check.due("first terms: count(3)", x.count(3), 190);
+    }
+
+    private static void firstTerms() {
+        SurplusLand x = new SurplusLand();
+        x.grower(0, 100);
+        x.crop(0, 700);
+        x.go(0);
+        check.due("high is 120: price 120", x.count(3), 120);
+        check.due("plant is 10", x.growerOf(0, 2), 10);
+        SurplusLand y = new SurplusLand();
+        y.grower(0, 100);
+        y.crop(0, 710);
+        y.go(0);
+        check.due("price 119", y.count(3), 119);
+        check.due("not high", y.growerOf(0, 2), 0);
+        SurplusLand z = new SurplusLand();
+        z.grower(0, 1000);
+        Check.law(z, "keep 10", 0, 0);
+        z.go(1);
+        z.crop(0, 1495);
+        z.go(0);
+        check.due("quota is 100", z.sum(4), 100);
+        check.due("damp is 0", z.sum(6), 0);
+        check.due("pull is 100", z.count(3), 100 - 59);
     }
 
     private static void terms() {

@@ -119,6 +119,23 @@ public final class ReceiptTest {
         check.due("a bank holds it", x.redeem(2), -2);
         check.due("what is left is free again", x.redeem(0), 45);
         check.due("taken back", x.sum(7), 245);
+        redeemOfALaterYear();
+    }
+
+    private static void redeemOfALaterYear() {
+        SurplusLand x = withReceipts();
+        Check.law(x, "keep 100", 1, 1);
+        x.go(1);
+        x.go(0);
+        x.go(0);
+        check.due("year 0 in year 4", x.redeem(0), 100);
+        check.due("year 1 in year 4", x.redeem(2), 10);
+        SurplusLand y = withReceipts();
+        Check.law(y, "keep 100", 1, 1);
+        y.go(1);
+        y.go(0);
+        check.due("year 0 in year 3", y.redeem(0), 100);
+        check.due("year 1 in year 3", y.redeem(2), -9);
     }
 
     private static void receipt() {

@@ -162,5 +162,7 @@ public final class RowTest {
         isSeen("as they were", x, 0, "1 2 3 4 4");
         check.due("the same place", x.paste(0, 1, 0, 1, 2), 0);
         isSeen("the same", x, 0, "1 2 3 4 4");
+        check.due("from the last slot", x.paste(3, 2, 0, 0, 4), 0);
+        isSeen("from the last slot", x, 0, "2 3 4 0 4");
     }
 }

@@ -10,7 +10,9 @@ public final class YearTest {
         keptAndRest();
         soldFromTheStore();
         stilledFromTheStore();
+        soldForABank();
         soldFree();
+        oneMoreOfTheFirst();
         stilledFree();
         damp();
         price();
@@ -92,6 +94,8 @@ public final class YearTest {
         check.due("years", x.count(0), 30);
         check.due("a crop of no year", x.crop(0, 5), 0);
         check.due("sacks", x.sum(0), 1500);
+        x.right(0, 29, 8);
+        check.due("the crop of year 29", x.growerOf(0, 7), 8);
     }
 
     private static void noNumbersLeft() {
@@ -192,6 +196,46 @@ public final class YearTest {
         y.terms(0, 0, 0, 0, 10000, 0, 0);
         y.go(1);
         check.due("the last year's go", y.sum(5), 10);
+    }
+
+    /** Each bank takes a receipt of its own; then a part is sold and the rest goes to the stills. */
+    private static void soldForABank() {
+        for (int b = 0; b < 3; b++) {
+            SurplusLand x = quiet(10);
+            Check.law(x, "keep 100", 0, 0);
+            Check.law(x, "sell 4", 3, 3);
+            Check.law(x, "still 1", 4, 4);
+            x.go(1);
+            x.bank(b, 100, 100);
+            x.pledge(0, b, 1);
+            x.go(0);
+            x.go(0);
+            check.due("the bank holds it", x.receipt(0, 0), 12 + b);
+            x.go(0);
+            check.due("the bank has the price", x.money(12 + b), -1000 + 400);
+            x.go(0);
+            check.due("and a quarter of it", x.money(12 + b), -1000 + 400 + 150);
+            check.due("the grower has what was lent", x.money(0), 1000);
+        }
+    }
+
+    private static void oneMoreOfTheFirst() {
+        SurplusLand x = new SurplusLand();
+        x.terms(8, 0, 0, 0, 10000, 0, 0);
+        x.grower(0, 0);
+        x.grower(0, 1);
+        x.grower(0, 5);
+        x.grower(0, 5);
+        x.go(1);
+        check.due("one without any gives none", x.money(0), 0);
+        check.due("0 and one more", x.money(1), 100);
+        check.due("3 and one more", x.money(2), 400);
+        check.due("3", x.money(3), 300);
+        SurplusLand y = new SurplusLand();
+        y.grower(0, 1);
+        y.go(1);
+        check.due("a single one", y.money(0), 100);
+        check.due("is sold abroad", y.sum(2), 1);
     }
 
     private static void soldFree() {
