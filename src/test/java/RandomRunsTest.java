@@ -10,8 +10,17 @@ public final class RandomRunsTest {
     private static final int[] WEIGHTS = {4, 6, 6, 12, 12, 6, 12, 6, 24, 14, 12, 10, 26, 14, 10, 30, 16, 24, 10, 20, 14,
         6, 8, 2, 6, 3, 12, 6, 3, 3};
 
+    /* Kinds of runs, beside the common ones. */
+    private static final int FIRST_TERMS = 0;
+    private static final int MANY_YEARS = 1;
+    private static final int FEW_YEARS = 2;
+    private static final int MANY_PAPERS = 3;
+    private static final int MANY_LOANS = 4;
+    private static final int KINDS = 7;
+
     private final Random dice;
     private final int kind;
+    private final int[] weights = WEIGHTS.clone();
     private final Check check;
     private final SurplusLand real = new SurplusLand();
     private final PlainLand plain = new PlainLand();
@@ -19,8 +28,10 @@ public final class RandomRunsTest {
 
     private RandomRunsTest(long seed, Check check) {
         dice = new Random(seed);
-        kind = dice.nextInt(4);
+        kind = dice.nextInt(KINDS);
         this.check = check;
+        weighMore("go", kind == MANY_YEARS ? 5 : kind == MANY_LOANS ? 3 : 1);
+        weighMore("pledge", kind == MANY_LOANS || kind == MANY_PAPERS ? 8 : 1);
     }
 
     public static void main(String[] args) {
@@ -39,15 +50,21 @@ public final class RandomRunsTest {
         }
     }
 
+    private void weighMore(String name, int times) {
+        for (int i = 0; i < NAMES.length; i++) {
+            weights[i] *= NAMES[i].equals(name) ? times : 1;
+        }
+    }
+
     private int pick() {
         int all = 0;
-        for (int w : WEIGHTS) {
+        for (int w : weights) {
             all += w;
         }
         int n = dice.nextInt(all);
         int i = 0;
-        while (n >= WEIGHTS[i]) {
-            n -= WEIGHTS[i];
+        while (n >= weights[i]) {
+            n -= weights[i];
             i++;
         }
         return i;
@@ -75,7 +92,7 @@ public final class RandomRunsTest {
     }
 
     private void begin(String at) {
-        if (kind != 0) {
+        if (kind != FIRST_TERMS) {
             newTerms(at);
         }
         int growers = dice.nextInt(4) == 0 ? 12 : roll(0, 5);
@@ -85,6 +102,28 @@ public final class RandomRunsTest {
         for (int n = 0; n < 3; n++) {
             turn(at, "text");
             turn(at, "law");
+        }
+        if (kind == MANY_PAPERS) {
+            fillPapers(at);
+        }
+        for (int b = 0; b < 3 && kind == MANY_LOANS; b++) {
+            int rate = near(60, 100);
+            same(at + " bank", real.bank(b, 90, rate), plain.bank(b, 90, rate));
+        }
+    }
+
+    /** Splits a great receipt until few numbers are left. */
+    private void fillPapers(String at) {
+        int free = roll(0, 8);
+        same(at + " end", real.end(0), plain.end(0));
+        Check.type(real, "keep 90");
+        plain.tape = "keep 90";
+        same(at + " law", real.law(0, 1), plain.law(0, 1));
+        same(at + " crop", real.crop(0, 5000), plain.crop(0, 5000));
+        go(at + " go");
+        for (int n = plain.receipts.size(); n < 400 - plain.growers.size() - free && n > 0; n++) {
+            int sacks = roll(1, 9);
+            same(at + " split " + n, real.split(0, sacks), plain.split(0, sacks));
         }
     }
 
@@ -196,7 +235,7 @@ public final class RandomRunsTest {
     }
 
     private void go(String call) {
-        if (kind == 3 && dice.nextInt(3) != 0) {
+        if (kind == FEW_YEARS && dice.nextInt(3) != 0) {
             return;
         }
         int yield = near(0, dice.nextBoolean() ? 100 : 5);
