@@ -1,13 +1,39 @@
+import java.io.IOException;
+import java.nio.file.Files;
+import java.nio.file.Path;
+
 /** Counts the answers that are not the ones that are due. */
 final class Check {
+    private static final String DOCUMENT = document();
+
     private int wrong = 0;
     private int asked = 0;
+    private String words = "";
+
+    /** The document in one line; empty where there is none, so that tests run without it too. */
+    private static String document() {
+        try {
+            return oneLine(Files.readString(Path.of("../shared/DOC.md")));
+        } catch (IOException e) {
+            return "";
+        }
+    }
+
+    private static String oneLine(String text) {
+        return text.replaceAll("\\s+", " ");
+    }
+
+    /** The words of the document that the next answers are asked for; they must stand there. */
+    void sentence(String quoted) {
+        words = "'" + quoted + "': ";
+        due("stands in the document", DOCUMENT.isEmpty() || DOCUMENT.contains(oneLine(quoted)), true);
+    }
 
     void due(String call, long got, long want) {
         asked++;
         if (got != want) {
             wrong++;
-            System.out.println(call + " answered " + got + ", due is " + want);
+            System.out.println(words + call + " answered " + got + ", due is " + want);
         }
     }
 
