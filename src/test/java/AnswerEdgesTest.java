@@ -210,6 +210,14 @@ public final class AnswerEdgesTest {
         for (int what = 0; what < 5; what++) {
             check.due("no YEAR: " + what, Check.beside(x, "keep 50", what), ahead[what]);
         }
+        x.terms(10000, 0, 0, 0, 10000, 0, 0);
+        x.crop(1, 4);
+        x.go(0);
+        long[] first = {100, 4, 500, 1007, 0};
+        for (int what = 0; what < 5; what++) {
+            check.due("one YEAR: " + what, Check.beside(x, "keep 100;free 0", what), first[what]);
+        }
+        check.due("MONEY of two", Check.beside(x, "still 9", 2), 900);
         SurplusLand y = Lands.quiet(1000);
         for (int n = 0; n < 30; n++) {
             y.go(n);

@@ -121,6 +121,9 @@ public final class CallEdgesTest {
         lively.refused("grower(0, 1)", -9, x -> x.grower(0, 1));
         lively.refused("a late one of no VILLAGE", -2, x -> x.grower(8, 1));
         ended.refused("at the end", -9, x -> x.grower(0, 1));
+        SurplusLand second = new SurplusLand();
+        second.go(0);
+        check.due("one YEAR has gone", second.grower(0, 1), -9);
         SurplusLand late = new SurplusLand();
         Lands.peopled(late);
         late.go(0);
@@ -221,6 +224,14 @@ public final class CallEdgesTest {
             int part = y == 0 ? 2 : y == 2 || y == 3 ? 3 : y == 29 ? 4 : y == 5 ? 0 : 1;
             check.due("PART of YEAR " + y, x.count(7), part);
         }
+        SurplusLand y = new SurplusLand();
+        String longest = "keep 7" + "*1".repeat(147);
+        for (int n = 0; n < 4; n++) {
+            check.due("the longest TAPE, time " + n, Check.law(y, longest, 0, 29), 1);
+        }
+        y.go(0);
+        check.due("its PART", y.count(7), 7);
+        check.due("beside too", Check.beside(y, longest, 0), 190);
     }
 
     private static void lawRefused() {

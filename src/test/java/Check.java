@@ -71,10 +71,11 @@ final class Check {
         return land.beside(what);
     }
 
-    /** The place of the fault in a text; NONE without one. */
+    /** The place of the fault in a text; NONE without one; -99 if law() does not answer as fault() does. */
     static int fault(String text) {
         SurplusLand land = new SurplusLand();
-        law(land, text, 0, 29);
-        return land.fault();
+        int clauses = law(land, text, 0, 29);
+        boolean alike = land.fault() < 0 ? clauses > 0 : clauses == -4;
+        return alike ? land.fault() : -99;
     }
 }

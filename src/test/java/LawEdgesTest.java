@@ -53,19 +53,33 @@ public final class LawEdgesTest {
 
     private static void textOrNone() {
         check.sentence("THE LAW of a YEAR is a text, or none.");
-        SurplusLand x = Lands.quiet(100, 100);
-        Check.law(x, "keep 50;sell 9;free 1;still 0", 1, 1);
+        SurplusLand x = Lands.quiet(100, 100, 100);
+        Check.law(x, "keep 50", 1, 1);
+        Check.law(x, "keep 40;sell 9;free 0;free 1;least 200;still 2", 3, 3);
         x.go(1);
         check.due("none: PART", x.count(7), 0);
         check.due("none: KEPT", x.sum(1), 0);
-        check.due("none: who is not freed is put right by PART 0", x.right(0, 0, 5), 0);
+        check.due("none: put right by PART 0", x.right(0, 0, 5), 0);
         x.go(1);
         check.due("a text: PART", x.count(7), 50);
-        check.due("a text: KEPT", x.sum(1), 50);
+        check.due("a text: KEPT", x.sum(1), 150);
         x.go(1);
         check.due("none: PART", x.count(7), 0);
-        check.due("none: SOLD", x.sum(3), 0);
+        check.due("none: KEPT", x.sum(1), 150);
+        x.go(1);
+        check.due("a text: all are freed", x.sum(1), 150);
+        check.due("a text: SOLD", x.sum(3), 9);
+        for (int n = 0; n < 3; n++) {
+            x.right(n, 1, 104);
+        }
+        x.go(1);
+        check.due("none: nobody is freed", x.sum(1), 156);
+        check.due("none: SOLD", x.sum(3), 9);
         check.due("none: STILL", x.sum(5), 0);
+        Check.law(x, "sell 4", 5, 5);
+        x.go(1);
+        check.due("a text: SOLD", x.sum(3), 13);
+        check.due("no keep: KEPT", x.sum(1), 156);
     }
 
     private static void blanks() {
@@ -89,6 +103,9 @@ public final class LawEdgesTest {
         faultIs("keep pricea", 5);
         faultIs("keep (crop)if(store)<(old)and(price)>(want);free 1", -1);
         faultIs("zkeep 1", 0);
+        faultIs("beep 1", 0);
+        faultIs("keex 1", 0);
+        faultIs("kee 1", 0);
         faultIs("keep 1 if 1<=2", 12);
         check.due("12 is one number", part("keep 12"), 12);
     }
@@ -182,6 +199,14 @@ public final class LawEdgesTest {
         faultIs("keep 1 and 1<2", 7);
         faultIs("keep 1 if (1<2)", 12);
         faultIs("keep 1 if <2", 10);
+        holds("1<2 and 2>1 and 3=3");
+        String[] wrong = {"2<2", "2>2", "1=2", "2<1", "1>2", "2=1"};
+        for (String w : wrong) {
+            check.due(w + " alone", part("keep 1 if " + w + ";keep 2"), 2);
+            check.due(w + " first", part("keep 1 if " + w + " and 1<2 and 1=1;keep 2"), 2);
+            check.due(w + " second", part("keep 1 if 1<2 and " + w + " and 1=1;keep 2"), 2);
+            check.due(w + " last", part("keep 1 if 1<2 and 1=1 and " + w + ";keep 2"), 2);
+        }
     }
 
     private static void loneNumbers() {
@@ -215,11 +240,16 @@ public final class LawEdgesTest {
         faultIs("keep ", 5);
         faultIs("keep" + " ".repeat(296), 300);
         faultIs("keep 1+", 7);
+        faultIs("keep (", 6);
         faultIs("keep (1", 7);
+        faultIs("keep (1+", 8);
+        faultIs("keep ((1*", 9);
         faultIs("keep 1*(2+3 ", 12);
         faultIs("keep 1" + "+1".repeat(146) + "+", 299);
         faultIs("keep 1" + "+1".repeat(147), -1);
         faultIs("keep 01" + "+1".repeat(146) + "*", 300);
+        faultIs(";".repeat(300), 0);
+        faultIs("keep 1" + "+".repeat(294), 7);
     }
 
     private static void noToken() {
@@ -252,6 +282,10 @@ public final class LawEdgesTest {
         faultIs("keep and", 5);
         faultIs("keep crop crop", 10);
         faultIs("keep (1;keep 2)", 7);
+        faultIs("keep (;keep 2", 6);
+        faultIs("keep (1+;keep 2", 8);
+        faultIs("keep 1 if (2*)<3", 13);
+        faultIs("keep 1 if 2<;keep 2", 12);
     }
 
     private static void numberTooGreat() {
@@ -332,6 +366,14 @@ public final class LawEdgesTest {
     }
 
     private static void factsAtTheEdges() {
+        check.sentence("crop: the CROPS of all in this YEAR");
+        SurplusLand both = Lands.quiet(10, 20);
+        Check.law(both, "keep crop-20", 0, 29);
+        both.crop(1, 51);
+        both.go(2);
+        check.due("20 and 51", both.count(7), 51);
+        both.go(0);
+        check.due("none in the next YEAR", both.count(7), 0);
         check.sentence("store: the STORE as the YEAR begins; old: its sacks of YEARS ahead of the last one");
         holds("crop=0 and store=0 and old=0 and price=100 and want=900 and year=0");
         SurplusLand x = Lands.quiet(10);

@@ -275,6 +275,13 @@ public final class LoanEdgesTest {
             check.due("PRICE", x.count(3), prices[i]);
             check.due("1500 at " + prices[i], x.receipt(1, 1), sacks[i]);
         }
+        SurplusLand y = Lands.stored(500);
+        Lands.price(y, 1);
+        y.bank(0, 1, 100);
+        check.due("lent at 1", y.pledge(0, 0, 1), 5);
+        y.go(0);
+        y.go(0);
+        check.due("10 at 1", y.receipt(1, 1), 10);
     }
 
     private static void atMostAll() {

@@ -153,6 +153,16 @@ public final class PaperEdgesTest {
         seized.refused("no sacks", -2, x -> x.pledge(2, 0, 1));
         seized.refused("a BANK's, to itself", -2, x -> x.pledge(0, 2, 1));
         seized.refused("a BANK's, to another", -2, x -> x.pledge(0, 0, 1));
+        for (int b = 0; b < 3; b++) {
+            SurplusLand x = Lands.stored(10);
+            x.bank(b, 100, 100);
+            x.pledge(0, b, 1);
+            x.go(0);
+            x.go(0);
+            check.due("HOLDER", x.receipt(0, 0), 12 + b);
+            check.due("BANK " + b + " holds it", x.pledge(0, (b + 1) % 3, 1), -2);
+            check.due("BANK " + b + " can't take it back", x.redeem(0), -2);
+        }
     }
 
     private static void pledgeTwice() {

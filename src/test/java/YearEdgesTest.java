@@ -209,14 +209,16 @@ public final class YearEdgesTest {
             check.due("MONEY, sell " + n, x.money(0), 100 * first);
             check.due("MONEY, sell " + n, x.money(1), 100 * second);
         }
-        SurplusLand y = Lands.stored(5);
-        y.bank(1, 100, 100);
-        y.pledge(0, 1, 1);
-        y.go(0);
-        y.go(0);
-        Check.law(y, "sell 5", 3, 3);
-        y.go(0);
-        check.due("a BANK gets it too", y.money(13), -500 + 500);
+        for (int b = 0; b < 3; b++) {
+            SurplusLand y = Lands.stored(5);
+            y.bank(b, 100, 100);
+            y.pledge(0, b, 1);
+            y.go(0);
+            y.go(0);
+            Check.law(y, "sell 4", 3, 3);
+            y.go(0);
+            check.due("BANK " + b + " gets it too", y.money(12 + b), -500 + 400);
+        }
     }
 
     private static void ifThereIsAStill() {
@@ -339,6 +341,7 @@ public final class YearEdgesTest {
         left(1, new int[] {1, 1, 1}, new int[] {0, 1, 1});
         left(2, new int[] {1, 1, 1}, new int[] {0, 0, 1});
         left(3, new int[] {1, 1, 1}, new int[] {0, 0, 0});
+        left(1, new int[] {1}, new int[] {0});
         left(1, new int[] {0, 0, 3}, new int[] {0, 0, 2});
         left(2, new int[] {0, 3, 0, 3, 3}, new int[] {0, 2, 0, 2, 3});
         left(11, new int[] {1, 1, 1, 1, 1, 1, 1, 1, 1, 1, 1, 1}, new int[] {0, 0, 0, 0, 0, 0, 0, 0, 0, 0, 0, 1});
@@ -408,6 +411,10 @@ public final class YearEdgesTest {
         Check.law(x, "keep 100", 0, 0);
         x.go(1);
         check.due("each by itself, those of this YEAR too", x.count(4), 16);
+        check.due("lost", x.sum(6), 2);
+        x.go(0);
+        check.due("of 8 each", x.count(4), 14);
+        check.due("lost in both YEARS", x.sum(6), 4);
     }
 
     /** The price after a year with so many free sacks and so many wanted. */
@@ -504,6 +511,12 @@ public final class YearEdgesTest {
         y.crop(0, 1);
         y.go(0);
         check.due("PRICE as it became", y.growerOf(0, 2), 0);
+        SurplusLand z = Lands.quiet(100);
+        z.terms(0, 0, 0, 0, 100, 10, 0);
+        z.go(0);
+        z.terms(0, 0, 0, 0, 101, 10, 0);
+        z.go(0);
+        vines(z, 100, 0, 10, 0);
     }
 
     private static void moneyOfZeroOrMore() {
@@ -639,7 +652,10 @@ public final class YearEdgesTest {
         check.due("one more", x.right(0, 0, 101), 0);
         check.due("one more again", x.right(0, 0, 102), 0);
         check.due("two more", x.right(0, 0, 104), 1);
-        check.due("two fewer", x.right(0, 0, 102), -1);
+        check.due("two more again", x.right(0, 0, 106), 1);
+        check.due("both are added to the REST", x.growerOf(0, 6), 200);
+        check.due("four fewer", x.right(0, 0, 102), -2);
+        check.due("and taken from it", x.growerOf(0, 6), 0);
         check.due("the same", x.right(0, 0, 102), 0);
         check.due("the CROP", x.growerOf(0, 7), 102);
         check.due("KEPT is what it was", x.growerOf(0, 8), 50);
